@@ -226,7 +226,11 @@ public final class CalledStalls {
         if (n < 0 || n > there) {
             return BAD;
         }
-        night.backTo(n);
+        // Deeds always lead to the same night: the first n of them done anew are the rest of them undone.
+        night.begin();
+        for (int d = 0; d < n && d < DEEDS_MOST; d++) {
+            night.perform(night.deeds[d]);
+        }
         return there - n;
     }
 
@@ -290,7 +294,8 @@ public final class CalledStalls {
         if (script.sitterCount == 0) {
             return STATE;
         }
-        int carried = search.findBest();
+        int carried = search.findMost(night.allowed(), 0);
+        search.findFirstOfMost();
         int n = night.scenesYet();
         rowShelf.make(r, n, NONE);
         for (int k = 0; k < n; k++) {
@@ -983,16 +988,8 @@ public final class CalledStalls {
             scene++;
         }
 
-        /** Deeds always lead to the same night, so the first n of them done anew are the rest of them undone. */
-        void backTo(int n) {
-            begin();
-            for (int d = 0; d < n && d < DEEDS_MOST; d++) {
-                perform(deeds[d]);
-            }
-        }
-
         private void playScene(int i) {
-            int lacking = lackingNow(i);
+            int lacking = script.lacking(i, scene, called, clapping);
             if (lacking <= promptsLeft) {
                 promptsLeft -= lacking;
                 shame += lacking;
@@ -1206,11 +1203,10 @@ public final class CalledStalls {
             seekMost(scene + 1, called, clapping, prompts, carried);
         }
 
-        int findBest() {
-            findMost(night.allowed(), 0);
+        /** Of the plans that carry as many as findMost() found, the first one of fewest prompts. */
+        void findFirstOfMost() {
             fewestGone = night.promptsLeft + 1;
             seekBest(night.scene, night.called, night.clapping, night.promptsLeft, 0);
-            return most;
         }
 
         int choiceFor(int scene) {

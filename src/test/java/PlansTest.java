@@ -4,6 +4,8 @@ public final class PlansTest extends Bench {
     private static final String FIVE = "a2641 s130 c050 k255 w709 s350";
     /** Says 2, 1, 4; lines 2, 4; no prompts. */
     private static final String THREE = "a024 s020 s110 s240";
+    /** Lacks 1, 2, 1 in both scenes; 2 prompts. */
+    private static final String PROMPTED = "a233 s020 s110 s220";
 
     public static void main(String[] args) {
         begin("PlansTest");
@@ -48,6 +50,13 @@ public final class PlansTest extends Bench {
         play(0, -1);
         play(2, 3, 1, 4);
         play(1, 1, NONE, 4);
+        house(PROMPTED);
+        play(1, 0, 0, 1);
+        play(1, 0, 1, 0);
+        play(2, 2, 0, 2);
+        house("a066 q230 q130 s560");
+        play(1, 1, 0, 1);
+        play(2, 4, 0, 2);
     }
 
     private static void unlike(int... plan) {
@@ -96,6 +105,8 @@ public final class PlansTest extends Bench {
         best("a93 s010 s130", 1, 0, 1);
         best("a93 s030 s140", 1, 0, 0);
         best("a044s050", 1, 0, NONE, 0);
+        best("a094s050", 1, 0, NONE, 0);
+        best(PROMPTED, 2, 2, 0, 2);
         best("a014 s010 s153", 2, 0, 0, 1);
         best("a99 s000", 1, 9, 0);
         best("a89 s000", 0, 0, NONE);
@@ -167,6 +178,13 @@ public final class PlansTest extends Bench {
         tellsFraction("ways(0) behind all", x.ways(0), 1, 1);
         is("nobody is called", x.asked(), 0);
         tellsFraction("ways(1) behind all", x.ways(1), 0, 1);
+        house("a011s010");
+        tellsFraction("ways(0) with one for two scenes", x.ways(0), 3, 1);
+        tellsFraction("ways(1) with one for two scenes", x.ways(1), 2, 1);
+        is("he is in all", x.asked(), 1);
+        house(PROMPTED);
+        tellsFraction("ways(2) by prompts", x.ways(2), 2, 1);
+        is("those in all", x.asked(), 1 | 4);
         house("a0111111 s090s190s290s390s490s590");
         tellsFraction("ways(0) of six", x.ways(0), 13327, 1);
         tellsFraction("ways(6) of six", x.ways(6), 720, 1);
@@ -209,6 +227,8 @@ public final class PlansTest extends Bench {
         tells("six", x.beside(), 5, 6);
         house("a01 s300");
         tells("one alone", x.beside(), 0, 1);
+        house("a01 s100 s800 s300 s900");
+        tells("beside the last seat", x.beside(), 1, 2);
     }
 
     private static void aparts() {
@@ -224,6 +244,8 @@ public final class PlansTest extends Bench {
         tells("four", x.apart(), 2, 1 | 4);
         house("a01 s300");
         tells("one alone", x.apart(), 0, 0);
+        house("a01 s100 s800 s300 s900");
+        tells("beside the last seat", x.apart(), 1, 2);
     }
 
     private static void frightsAndMemories() {
@@ -343,6 +365,8 @@ public final class PlansTest extends Bench {
         x.cut();
         x.cut();
         is("behind all", x.duel(4), 0);
+        house(PROMPTED);
+        is("by prompts", x.duel(2), 1);
         house("a0111111 s010s110s210s310s410s510");
         is("no more than four", x.duel(4), 4);
     }
@@ -357,11 +381,14 @@ public final class PlansTest extends Bench {
         tellsFraction("odds(1)", x.odds(1), 2, 3);
         tellsFraction("odds(2)", x.odds(2), 1, 6);
         tellsFraction("odds(3)", x.odds(3), 0, 1);
+        tellsFraction("odds(6)", x.odds(6), 0, 1);
         x.call(0);
         tellsFraction("odds(1) of scenes yet", x.odds(1), 1, 2);
         house("a011s010");
         tellsFraction("one for two scenes", x.odds(1), 1, 1);
         tellsFraction("two by one", x.odds(2), 0, 1);
+        house(PROMPTED);
+        tellsFraction("by prompts", x.odds(2), 1, 3);
         house("a01k010");
         tellsFraction("nobody", x.odds(0), 1, 1);
         tellsFraction("one by nobody", x.odds(1), 0, 1);
@@ -372,6 +399,8 @@ public final class PlansTest extends Bench {
         is("of nobody", x.mid(), STATE);
         house(THREE);
         tellsFraction("mid()", x.mid(), 1, 2);
+        house(PROMPTED);
+        tellsFraction("by prompts", x.mid(), 2, 3);
         house("a02 s020 s110 s310 s410");
         tellsFraction("below 0", x.mid(), -1, 4);
         house("a02 s020 s110 s310");

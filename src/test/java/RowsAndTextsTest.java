@@ -111,6 +111,8 @@ public final class RowsAndTextsTest extends Bench {
         fresh("7 mean");
         row(0, 1, 2, 2);
         tells("mean(0)", x.mean(0), 1, 1);
+        row(0, 5);
+        tells("mean(0) of one", x.mean(0), 1, 5);
         row(0, -1, -2, -2);
         tells("mean(0) below 0, cut", x.mean(0), 1, -1);
         row(0, Integer.MAX_VALUE, Integer.MAX_VALUE, Integer.MAX_VALUE);
