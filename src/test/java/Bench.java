@@ -1,3 +1,6 @@
+import java.util.Arrays;
+import java.util.function.IntSupplier;
+
 /** An object under test, and ways to say what is due of it; each test of promises begins on a fresh one. */
 abstract class Bench {
     static final int BAD = -1, FULL = -2, FINDING = -3, STATE = -4, NONE = -9;
@@ -14,6 +17,11 @@ abstract class Bench {
     static void fresh(String name) {
         promise = name;
         x = new CalledStalls();
+    }
+
+    /** A test of its own for a sentence of the document, quoted as it stands there (EdgeListTest looks it up). */
+    static void edge(int number, String sentence) {
+        fresh(number + " \"" + sentence + "\"");
     }
 
     static void is(String what, long got, long want) {
@@ -67,5 +75,29 @@ abstract class Bench {
         for (int k = 0; k < n; k++) {
             due.holds(promise + ": change " + k, x.change(0, 1) >= 0);
         }
+    }
+
+    /** All that a refused call must leave as it is, and the findings behind that. */
+    private static long[] told() {
+        return new long[] {
+            x.digest(), x.asked(), x.upper(), x.lower(), x.finding(),
+            x.findings(1), x.findings(2), x.findings(3), x.findings(4), x.findings(5),
+        };
+    }
+
+    /** A refusal that is no FINDING changes nothing at all. */
+    static void refuses(String what, int answer, IntSupplier call) {
+        long[] before = told();
+        is(what, call.getAsInt(), answer);
+        due.holds(promise + ": " + what + " changes nothing", Arrays.equals(told(), before));
+    }
+
+    /** A refusal by a FINDING changes finding() and findings() alone. */
+    static void finds(String what, int finding, IntSupplier call) {
+        long[] due = told();
+        due[4] = finding;
+        due[4 + finding]++;
+        is(what, call.getAsInt(), FINDING);
+        Bench.due.holds(promise + ": " + what + " changes the findings alone", Arrays.equals(told(), due));
     }
 }
