@@ -7,7 +7,7 @@ abstract class Bench {
     static final int NOTHING = 1, BEYOND = 2, UNLIKE = 3, NOUGHT = 4, SIZE = 5;
 
     static Due due;
-    static CalledStalls x;
+    static Counted x;
     static String promise;
 
     static void begin(String test) {
@@ -15,13 +15,29 @@ abstract class Bench {
     }
 
     static void fresh(String name) {
+        endOfUse();
         promise = name;
-        x = new CalledStalls();
+        x = new Counted();
     }
 
-    /** A test of its own for a sentence of the document, quoted as it stands there (EdgeListTest looks it up). */
+    /** The same test goes on with another object. */
+    static void renew() {
+        fresh(promise);
+    }
+
+    private static void endOfUse() {
+        due.holds(promise + ": no more than 512 calls of one object", x == null || !x.isUsedTooLong());
+    }
+
+    static void end() {
+        endOfUse();
+        due.end();
+    }
+
+    /** A test of its own for a sentence of the document, quoted as it stands there, of a promise or of the terms. */
     static void edge(int number, String sentence) {
         fresh(number + " \"" + sentence + "\"");
+        due.holds(promise + " stands in the document", Document.says(number, sentence));
     }
 
     static void is(String what, long got, long want) {

@@ -23,7 +23,7 @@ public final class DeedEdgesTest extends Bench {
         keptRefused();
         goneOnFrom();
         goneOnFromOthers();
-        due.end();
+        end();
     }
 
     private static void stands(String what, int prompts, int shame, int carried, int applause) {

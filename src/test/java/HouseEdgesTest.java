@@ -18,11 +18,12 @@ public final class HouseEdgesTest extends Bench {
         houses();
         housesRefused();
         housesAnew();
-        due.end();
+        end();
     }
 
     /** The house that a text without a fault tells; a text with one tells none. */
     private static void fault(String s, int place) {
+        renew();
         write(1, s);
         is("'" + s + "'", x.fault(1), place);
         is("'" + s + "' again", x.fault(1), place);
@@ -175,9 +176,10 @@ public final class HouseEdgesTest extends Bench {
         fault("a01s:00", 4);
         fault("a01ss00", 4);
 
-        // Of the text before: a seat is free again in the next one.
-        fault("a01s300c3", 8);
-        fault("a01s300", NONE);
+        write(0, "a01s300c3");
+        is("taken in one TEXT", x.fault(0), 8);
+        write(0, "a01s300");
+        is("free again in the next one", x.fault(0), NONE);
     }
 
     private static void figures() {

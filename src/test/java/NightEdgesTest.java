@@ -9,7 +9,8 @@ public final class NightEdgesTest extends Bench {
 
     public static void main(String[] args) {
         begin("NightEdgesTest");
-        noticesRefused();
+        noticesRefused(29, "UNLIKE: a number that is none. (In this order.)", 1023);
+        noticesRefused(30, "BAD; NOTHING; SIZE; UNLIKE. (In this order.)", 63);
         noticesOfTriples();
         noticesOfNumbers();
         frights();
@@ -27,7 +28,7 @@ public final class NightEdgesTest extends Bench {
         lotsAmongFortyDeeds();
         lotsOfSeeds();
         lotsOfFew();
-        due.end();
+        end();
     }
 
     private static void over(int scenes) {
@@ -36,37 +37,33 @@ public final class NightEdgesTest extends Bench {
         }
     }
 
-    private static void noticesRefused() {
-        for (int number : new int[] {29, 30}) {
-            edge(number, number == 29 ? "UNLIKE: a number that is none. (In this order.)"
-                    : "BAD; NOTHING; SIZE; UNLIKE. (In this order.)");
-            x.row(0, 0);
-            refuses("frights of nobody", BAD, () -> x.frights(0, 0));
-            refuses("kinds of nobody", BAD, () -> x.kinds(0, 0));
-            house("a01 s055 s100");
-            x.row(5, 0);
-            is("frights by row 0", x.frights(0, 0), 1023);
-            is("frights by row 5", x.frights(1, 5), 1023);
-            is("kinds by row 0", x.kinds(0, 0), 63);
-            is("kinds by row 5", x.kinds(1, 5), 63);
-            for (int r : new int[] {-1, 6, MIN, MAX}) {
-                refuses("frights by row " + r, BAD, () -> x.frights(0, r));
-                refuses("kinds by row " + r, BAD, () -> x.kinds(0, r));
-            }
-            for (int i : new int[] {-1, 2, MIN, MAX}) {
-                refuses("frights of " + i, BAD, () -> x.frights(i, 0));
-                refuses("kinds of " + i, BAD, () -> x.kinds(i, 0));
-            }
-            finds("frights by a missing row", NOTHING, () -> x.frights(0, 1));
-            finds("kinds by a missing row", NOTHING, () -> x.kinds(0, 1));
-            refuses("BAD comes ahead of NOTHING", BAD, () -> x.frights(2, 1));
-            refuses("BAD comes ahead of NOTHING by kinds", BAD, () -> x.kinds(2, 1));
-            x.row(2, 4);
-            refuses("BAD comes ahead of SIZE", BAD, () -> x.frights(-1, 2));
-            refuses("BAD comes ahead of SIZE by kinds", BAD, () -> x.kinds(-1, 2));
-            finds("SIZE comes ahead of UNLIKE", SIZE, () -> x.frights(0, 2));
-            finds("SIZE comes ahead of UNLIKE by kinds", SIZE, () -> x.kinds(0, 2));
+    /** Both calls by notices refuse alike. */
+    private static int byNotices(int number, int i, int r) {
+        return number == 29 ? x.frights(i, r) : x.kinds(i, r);
+    }
+
+    private static void noticesRefused(int number, String sentence, int all) {
+        edge(number, sentence);
+        x.row(0, 0);
+        refuses("of nobody", BAD, () -> byNotices(number, 0, 0));
+        house("a01 s055 s100");
+        x.row(5, 0);
+        is("the first SITTER by row 0", byNotices(number, 0, 0), all);
+        is("the last SITTER by row 5", byNotices(number, 1, 5), all);
+        for (int n : new int[] {-1, MIN, MAX}) {
+            refuses("by row " + n, BAD, () -> byNotices(number, 0, n));
+            refuses("of " + n, BAD, () -> byNotices(number, n, 0));
         }
+        refuses("by row 6", BAD, () -> byNotices(number, 0, 6));
+        refuses("of 2", BAD, () -> byNotices(number, 2, 0));
+        finds("by a missing row", NOTHING, () -> byNotices(number, 0, 1));
+        refuses("BAD comes ahead of NOTHING", BAD, () -> byNotices(number, 2, 1));
+        x.row(2, 4);
+        refuses("BAD comes ahead of SIZE", BAD, () -> byNotices(number, -1, 2));
+        finds("SIZE comes ahead of UNLIKE", SIZE, () -> byNotices(number, 0, 2));
+        x.row(2, 3);
+        refuses("BAD comes ahead of UNLIKE", BAD, () -> byNotices(number, 2, 2));
+        finds("UNLIKE", UNLIKE, () -> byNotices(number, 0, 2));
     }
 
     private static void noticesOfTriples() {
@@ -211,7 +208,6 @@ public final class NightEdgesTest extends Bench {
         frights(0, 1023, 1023);
         x.call(2);
         frights(0, 0, 1022);
-        is("the one left is another CLAQUE for those who are none", x.kinds(3, 2), 63);
         row(2, 2, 0, 1);
         frights(0, 1023, 1023);
     }

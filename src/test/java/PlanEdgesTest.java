@@ -28,7 +28,7 @@ public final class PlanEdgesTest extends Bench {
         seatsNone();
         beside();
         apart();
-        due.end();
+        end();
     }
 
     private static void play(int carried, int applause, int... plan) {

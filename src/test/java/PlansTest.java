@@ -27,7 +27,7 @@ public final class PlansTest extends Bench {
         means();
         lotsOfNights();
         lotsRefused();
-        due.end();
+        end();
     }
 
     private static void play(int carried, int applause, int... plan) {

@@ -17,7 +17,7 @@ public final class RowEdgesTest extends Bench {
         mean();
         text();
         put();
-        due.end();
+        end();
     }
 
     /** The last places that are taken, and the first ones that are refused, on both sides. */

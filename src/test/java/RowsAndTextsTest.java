@@ -9,7 +9,7 @@ public final class RowsAndTextsTest extends Bench {
         texts();
         faults();
         houses();
-        due.end();
+        end();
     }
 
     private static void newObject() {

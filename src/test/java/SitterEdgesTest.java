@@ -22,7 +22,7 @@ public final class SitterEdgesTest extends Bench {
         marksOfClaques();
         lines();
         can();
-        due.end();
+        end();
     }
 
     /** One thing of each sitter, as they come. */
@@ -115,6 +115,7 @@ public final class SitterEdgesTest extends Bench {
         edge(12, "Who was not called this night CAN be called; a CRITIC only from a SEAT of an odd number;"
                 + " a COWARD only from a SEAT below 7.");
         for (int seat = 0; seat <= 9; seat++) {
+            renew();
             house("a01k" + seat + "00");
             tells("a CRITIC in SEAT " + seat, x.sitter(0, CAN), 1, seat % 2);
             is("a CRITIC in SEAT " + seat + " by can()", x.can(), seat % 2);
@@ -126,11 +127,13 @@ public final class SitterEdgesTest extends Bench {
             is("a COWARD in SEAT " + seat + " called", x.call(0), can == 1 ? 0 : STATE);
         }
         for (char letter : new char[] {'s', 'c', 'u', 'q'}) {
+            renew();
             for (int seat = 0; seat <= 9; seat++) {
                 house("a01" + letter + seat + "00");
                 tells(letter + " in SEAT " + seat, x.sitter(0, CAN), 1, 1);
             }
         }
+        renew();
         house(ONE_OF_EACH);
         x.change(1, 2);
         each("a CRITIC in SEAT 1, by a change", CAN, 1, 1, 1, 1, 1, 1);

@@ -17,7 +17,7 @@ public final class SittersAndDeedsTest extends Bench {
         undone();
         keptHouses();
         whoCan();
-        due.end();
+        end();
     }
 
     private static void sitterIs(int i, int... whats) {

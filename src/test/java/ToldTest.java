@@ -12,7 +12,7 @@ public final class ToldTest extends Bench {
         findingsToo();
         digests();
         refusalsChangeNothing();
-        due.end();
+        end();
     }
 
     private static void asked() {
