@@ -117,6 +117,11 @@ public final class HouseEdgesTest extends Bench {
         fault("a01:s000", 3);
         fault("a0111110s000", 7);
         fault("a011111 1s000", 8);
+        fault("a0123s000", NONE);
+        write(1, "a0s000");
+        is("no SCENE behind a TEXT that had some", x.fault(1), 2);
+        write(1, "a01");
+        is("no SITTER behind a TEXT that had one", x.fault(1), 3);
     }
 
     private static void sitters() {

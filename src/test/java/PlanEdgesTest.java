@@ -17,6 +17,7 @@ public final class PlanEdgesTest extends Bench {
         bestRefused();
         bestRows();
         bestCarried();
+        bestOfScenesYet();
         bestOrder();
         leastCalls();
         leastPrompts();
@@ -208,6 +209,18 @@ public final class PlanEdgesTest extends Bench {
         best("a014 s010 s153", 2, 0, 0, 1);
     }
 
+    private static void bestOfScenesYet() {
+        edge(23, "A PLAN is, for each SCENE yet, one who CAN be called then, or a cut.");
+        house("a119 s010 s180");
+        over(1);
+        tells("a SCENE that is over carries nobody", x.best(0), 1, 1);
+        rowIs("a SCENE that is over carries nobody", 0, 1);
+        house("a091 s090 s190 s200");
+        x.call(0);
+        tells("one who was called is not called again", x.best(0), 1, 0);
+        rowIs("one who was called is not called again", 0, 1);
+    }
+
     private static void bestOrder() {
         edge(23, "that one, of fewest PROMPTS gone (the first of these)");
         best("a93 s010 s130 s220", 1, 0, 1);
@@ -363,6 +376,8 @@ public final class PlanEdgesTest extends Bench {
         tells("more than the first pair would", x.seats(), 12, 2);
         tells("SEATS stay", x.sitter(1, 1), 1, 2);
         is("no DEEDS", x.count(3), 0);
+        house("a055 k050 w750");
+        tells("nobody CAN be called as it is, both then", x.seats(), 1, 2);
     }
 
     private static void seatsNone() {

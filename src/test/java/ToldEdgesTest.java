@@ -244,7 +244,7 @@ public final class ToldEdgesTest extends Bench {
         }
         x.undo(1);
         is("undone", x.applause(), 999);
-        is("asked() is not told", x.asked(), 1 + 8);
+        is("asked() is not told", x.asked(), 9);
     }
 
     private static void finding() {
