@@ -4,6 +4,7 @@ import java.util.function.IntSupplier;
 /** An object under test, and ways to say what is due of it; each test of promises begins on a fresh one. */
 abstract class Bench {
     static final int BAD = -1, FULL = -2, FINDING = -3, STATE = -4, NONE = -9;
+    static final int MIN = Integer.MIN_VALUE, MAX = Integer.MAX_VALUE;
     static final int NOTHING = 1, BEYOND = 2, UNLIKE = 3, NOUGHT = 4, SIZE = 5;
 
     static Due due;
@@ -84,6 +85,13 @@ abstract class Bench {
             tells(what + " place " + i, x.at(r, i), 1, values[i]);
         }
         finds(what + " behind", x.at(r, values.length), BEYOND);
+    }
+
+    /** So many scenes are over by cuts. */
+    static void over(int scenes) {
+        for (int k = 0; k < scenes; k++) {
+            x.cut();
+        }
     }
 
     /** So many deeds more that leave all seats as they were, if their number is even. */

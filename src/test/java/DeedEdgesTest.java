@@ -1,6 +1,5 @@
 /** Promises 15 to 20 at their boundaries: who is carried, how many deeds there can be, what is undone and kept. */
 public final class DeedEdgesTest extends Bench {
-    private static final int MIN = Integer.MIN_VALUE, MAX = Integer.MAX_VALUE;
     /** Lacks 0, 1, 2, 3 in any scene; 2 prompts; then those who can't be called. */
     private static final String LACKING = "a233333 s030 s220 s410 s600 k800 w900";
 

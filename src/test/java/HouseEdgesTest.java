@@ -1,6 +1,5 @@
 /** Promises 10 and 11 at their boundaries: the small language, sign by sign, and houses by it. */
 public final class HouseEdgesTest extends Bench {
-    private static final int MIN = Integer.MIN_VALUE, MAX = Integer.MAX_VALUE;
     private static final String SIX = "a01s000s100s200s300s400s500";
 
     public static void main(String[] args) {

@@ -2,7 +2,6 @@ import java.util.Arrays;
 
 /** Promises 29 to 35 at their boundaries: notices, turns, chances, lots. */
 public final class NightEdgesTest extends Bench {
-    private static final int MIN = Integer.MIN_VALUE, MAX = Integer.MAX_VALUE;
     private static final int LAST_SEED = 2147483646;
     private static final String SIX_ALIKE = "a0111111 s090s190s290s390s490s590";
     private static final String SIX_FAIL = "a0999999 s000s100s200s300s400s500";
@@ -29,12 +28,6 @@ public final class NightEdgesTest extends Bench {
         lotsOfSeeds();
         lotsOfFew();
         end();
-    }
-
-    private static void over(int scenes) {
-        for (int k = 0; k < scenes; k++) {
-            x.cut();
-        }
     }
 
     /** Both calls by notices refuse alike. */

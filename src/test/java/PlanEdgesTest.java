@@ -2,7 +2,6 @@ import java.util.Arrays;
 
 /** Promises 22 to 28 at their boundaries: plans, whom to call, seats. */
 public final class PlanEdgesTest extends Bench {
-    private static final int MIN = Integer.MIN_VALUE, MAX = Integer.MAX_VALUE;
     /** Says 3, 7 (a clerk), can't (a critic in seat 2), can't (a coward in seat 7), 5; lines 6, 4, 1; 2 prompts. */
     private static final String FIVE = "a2641 s130 c050 k255 w709 s350";
     private static final String SIX_ALIKE = "a0111111 s090s190s290s390s490s590";
@@ -40,12 +39,6 @@ public final class PlanEdgesTest extends Bench {
     private static void unlike(int... plan) {
         row(0, plan);
         finds("play of " + Arrays.toString(plan), UNLIKE, () -> x.play(0));
-    }
-
-    private static void over(int scenes) {
-        for (int k = 0; k < scenes; k++) {
-            x.cut();
-        }
     }
 
     private static void playRows() {

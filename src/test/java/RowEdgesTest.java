@@ -2,8 +2,6 @@ import java.util.function.IntUnaryOperator;
 
 /** Promises 1 to 9 at their boundaries: rows and texts. */
 public final class RowEdgesTest extends Bench {
-    private static final int MIN = Integer.MIN_VALUE, MAX = Integer.MAX_VALUE;
-
     public static void main(String[] args) {
         begin("RowEdgesTest");
         newObject();

@@ -1,6 +1,5 @@
 /** Promises 12 to 14 and 21 at their boundaries: what one fears, says, tells of his kind, and who can be called. */
 public final class SitterEdgesTest extends Bench {
-    private static final int MIN = Integer.MIN_VALUE, MAX = Integer.MAX_VALUE;
     private static final int KIND = 0, SEAT = 1, FEARS = 4, SAYS = 5, CALLED = 6, CAN = 7;
     private static final String ONE_OF_EACH = "a01 s000 c100 k200 u300 w400 q500";
 

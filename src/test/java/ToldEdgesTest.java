@@ -2,7 +2,6 @@ import java.util.function.IntSupplier;
 
 /** Promises 36 to 43 at their boundaries: what is told, counted, found, digested. */
 public final class ToldEdgesTest extends Bench {
-    private static final int MIN = Integer.MIN_VALUE, MAX = Integer.MAX_VALUE;
     private static final String SIX_ALIKE = "a0111111 s090s190s290s390s490s590";
     private static final String SIX_FAIL = "a0999999 s000s100s200s300s400s500";
     private static final int MARK = 12345;
