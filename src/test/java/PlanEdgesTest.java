@@ -429,8 +429,8 @@ public final class PlanEdgesTest extends Bench {
         house("a01s000s100s900");
         x.change(0, 2);
         tells("by a change", x.beside(), 1, 2);
-        x.call(0);
-        tells("whoever was called", x.beside(), 1, 2);
+        x.call(1);
+        tells("with one of the two called", x.beside(), 1, 2);
     }
 
     private static void apart() {

@@ -241,6 +241,9 @@ public final class SitterEdgesTest extends Bench {
         is("odd himself, by a change", x.mark(0, 2), 5);
         house("a01 k800 k000 k200");
         is("other CRITICS, too", x.mark(0, 2), 2);
+        house("a01 k100 s000 s200");
+        x.call(1);
+        is("one who was called, too", x.mark(0, 2), 2);
     }
 
     private static void marksOfUncles() {
@@ -326,5 +329,9 @@ public final class SitterEdgesTest extends Bench {
         is("by change()", x.change(0, 1), 1);
         is("the other one", x.can(), 1);
         is("asked() is not told", x.asked(), 0);
+        house("a01 s000 s100 s200");
+        x.call(1);
+        is("behind all SCENES, too", x.can(), 5);
+        tells("behind all SCENES by sitter()", x.sitter(2, 7), 1, 1);
     }
 }
